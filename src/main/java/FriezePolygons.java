@@ -125,7 +125,7 @@ public final class FriezePolygons {
     // ---- what is done
 
     public int cut(int a, int b) {
-        int made = isCorner(a) && isCorner(b) ? ring.numberOf(a, b) : -1;
+        int made = ring.numberOf(a, b);
         if (made < 0) {
             return BAD;
         }
@@ -993,7 +993,7 @@ public final class FriezePolygons {
     private static final class Tape {
         private static final int ROOM = 120;
         /** Tokens are told by their byte, but for these. */
-        private static final int NUMBER = 256, END = 257, NO_TOKEN = 258;
+        private static final int NUMBER = 256, END = 257, LONG_RUN = 258;
         private static final int STRANGE = 1, NOT_AS_TOLD = 2, NO_ROOM = 3;
 
         final Figure draft = new Figure();
@@ -1128,13 +1128,12 @@ public final class FriezePolygons {
                 token = END;
                 return;
             }
-            int first = letters[begin];
             end = begin + 1;
-            if (isFigure(first)) {
+            if (isFigure(letters[begin])) {
                 nextNumber();
             } else {
-                boolean known = first >= 'a' && first <= 'z' || first == ',' || first == ';';
-                token = known ? first : NO_TOKEN;
+                // a byte that is no token can stand nowhere, as nothing asks for it
+                token = letters[begin];
             }
         }
 
@@ -1146,7 +1145,7 @@ public final class FriezePolygons {
                 value = value % 10 * 10 + letters[i] - '0';
                 end = i + 1;
             }
-            token = end - begin <= 2 ? NUMBER : NO_TOKEN;
+            token = end - begin <= 2 ? NUMBER : LONG_RUN;
         }
 
         private static boolean isFigure(int letter) {
