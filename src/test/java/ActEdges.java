@@ -69,6 +69,37 @@ final class ActEdges {
                 "corner(1,1)=0 undo()=STATE");
         e.run(calls + " mirror()=0 count(4)=24 become(0,2)=1 count(4)=24", " undo()".repeat(23),
                 "corner(1,1)=5 undo()=0 corner(1,1)=5 undo()=STATE kind(0)=1");
+        actsMixed(e);
+    }
+
+    /** Acts of several sorts at several corners; what the oldest that is kept changed is there at last. */
+    private static void actsMixed(Edges e) {
+        int many = 31;
+        int[] turned = {0, 2, 4, 1, 3};
+        int[] kinds = {1, 1, 1, 1, 1};
+        int[] numbers = new int[5];
+        String[] looks = new String[many];
+        StringBuilder calls = new StringBuilder(Edges.plain(5, "d0,2;"));
+        int turns = 0;
+        for (int i = 0; i < many; i++) {
+            int c = i % 5;
+            looks[i] = " whole(1)={" + turned[turns % 5] + "} kind(" + c + ")=" + kinds[c] + " corner(" + c + ",1)="
+                    + numbers[c];
+            if (i % 3 == 0) {
+                turns++;
+                calls.append(" turn(1)");
+            } else if (i % 3 == 1) {
+                kinds[c] = kinds[c] % 5 + 1;
+                calls.append(" become(").append(c).append(',').append(kinds[c]).append(')');
+            } else {
+                numbers[c] = i % 10;
+                calls.append(" number(").append(c).append(',').append(i % 10).append(')');
+            }
+        }
+        for (int left = 23; left >= 0; left--) {
+            calls.append(" undo()=").append(left).append(looks[left + many - 24]);
+        }
+        e.run(calls + " undo()=STATE");
     }
 
     private static void actsOfEachSort(Edges e) {
@@ -84,6 +115,7 @@ final class ActEdges {
         e.run("<p1;t2;m3;f4;o5;>=5 become(4,1)=5 become(0,5)=1 undo()=1 kind(0)=1 kind(4)=1 undo()=0 kind(4)=5");
         e.run("<p1;t2;m3;f4;o5;>=5 number(4,0)=5 number(0,9)=1 undo()=1 corner(0,1)=1 corner(4,1)=0 undo()=0",
                 "corner(4,1)=5");
+        e.run(Edges.plain(9), "number(8,5)=0 become(8,5)=1 undo()=1 kind(8)=1 undo()=0 corner(8,1)=0");
         e.terms("READ BACK a row is laid in place of all CUTS.");
         e.run(FAN, "0:[1,4,1,2,2,2] lay(0)={3,4,5} undo()=0 whole(1)={0,1,2}");
     }
@@ -188,8 +220,8 @@ final class ActEdges {
         e.run("flip(0)=BAD flip(-1)=BAD");
         for (int n = 4; n <= 9; n++) {
             int numbers = n * (n - 3) / 2;
-            e.run(Edges.plain(n), "flip(-1)=BAD flip(MIN)=BAD flip(MAX)=BAD flip(32)=BAD flip(" + numbers + ")=BAD flip("
-                    + (numbers - 1) + ")=STATE");
+            e.run(Edges.plain(n), "flip(-1)=BAD flip(MIN)=BAD flip(MAX)=BAD flip(32)=BAD flip(" + numbers
+                    + ")=BAD flip(" + (numbers - 1) + ")=STATE");
         }
         e.promise(12, "STATE: it is not there, or not between two triangles.");
         e.run(FAN, "flip(3)=STATE flip(8)=STATE join(1) flip(1)=STATE");

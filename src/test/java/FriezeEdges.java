@@ -55,7 +55,8 @@ final class FriezeEdges {
     }
 
     private static void counts(Edges e) {
-        e.terms("COUNT of a CORNER: a plain one 1 more than the CUTS at it; a twofold one twice that; a minus less that "
+        e.terms("COUNT of a CORNER: a plain one 1 more than the CUTS at it; a twofold one twice that; a minus "
+                + "less that "
                 + "(0 less it); a fixed one K; an open one 1 more than K.");
         // without cuts and with as many at one corner as there can be
         e.run("<p9;t9;m9;f0;o0;>=5 corner(0,0)=1 corner(1,0)=2 corner(2,0)=-1 corner(3,0)=0 corner(4,0)=1");
@@ -81,7 +82,8 @@ final class FriezeEdges {
     private static void cutOf(Edges e) {
         e.promise(19, "Of a CUT (its number): 0 A, 1 B, 2 whether it is there (1, 0), 3 that which it becomes FLIPPED "
                 + "(NONE: it can not be).");
-        e.run(Edges.plain(4, "d1,3;"), "cutOf(0,0)=0 cutOf(0,1)=2 cutOf(0,2)=0 cutOf(0,3)=NONE cutOf(1,0)=1 cutOf(1,1)=3",
+        e.run(Edges.plain(4, "d1,3;"), "cutOf(0,0)=0 cutOf(0,1)=2 cutOf(0,2)=0 cutOf(0,3)=NONE cutOf(1,0)=1",
+                "cutOf(1,1)=3",
                 "cutOf(1,2)=1 cutOf(1,3)=0");
         // beside a piece of four it can't be
         e.run(Edges.plain(6, "d0,2;d0,3;"), "cutOf(0,3)=3 cutOf(1,3)=NONE cutOf(2,3)=NONE cutOf(1,2)=1 cutOf(8,2)=0");
@@ -103,7 +105,8 @@ final class FriezeEdges {
     }
 
     private static void frieze(Edges e) {
-        e.terms("FRIEZE: number k of CORNER i, F(i, k): F(i, 0) is 0, F(i, 1) is 1; F(i, k) is COUNT of the CORNER k less "
+        e.terms("FRIEZE: number k of CORNER i, F(i, k): F(i, 0) is 0, F(i, 1) is 1; F(i, k) is COUNT of the "
+                + "CORNER k less "
                 + "1 behind i, times F(i, k less 1), less F(i, k less 2), for k up to 20;");
         // around the ring again and again
         e.run("<f1;f2;f3;f4;>=4", numbers(3, 0, 1, 1, 1, 2, 7, 5, 3, 4, 13, 9, 5, 6, 19, 13, 7, 8, 25, 17, 9, 10));
@@ -158,13 +161,15 @@ final class FriezeEdges {
         e.run("<f0;f0;f0;f0;>=4 frieze(0,4)=0 frieze(0,3)=-1 whole(3)=0");
         e.run(Edges.plain(6), "frieze(0,6)=0 frieze(0,5)=-1 whole(3)=0");
         e.run("<m0;m0;m0;m0;m0;m0;>=6 frieze(0,6)=0 frieze(0,5)=-1 whole(3)=0");
+        // number n less 1 is 1 of each, but number n is not 0
+        e.run("<m0;m0;m0;m0;m0;>=5 frieze(0,4)=1 frieze(0,5)=-1 whole(3)=0");
         // both are so without any cut
         e.run("<f0;f0;f0;f0;f0;f0;>=6 frieze(0,6)=0 frieze(0,5)=1 whole(3)=1");
         e.run(Edges.plain(9), "frieze(0,9)=0 frieze(0,8)=1 whole(3)=1");
         // of one corner alone they are, as its own count does not matter to its numbers
         e.run("<f1;f2;f1;f2;>=4 whole(3)=1 number(0,5) frieze(0,3)=1 frieze(0,4)=0 whole(3)=0");
         e.run("<f1;f2;f1;f2;>=4 number(3,5) frieze(3,3)=1 frieze(3,4)=0 whole(3)=0");
-        // number n less 1 is 1, but number n is not 0
+        // number n less 1 of one is 1, but number n is not 0
         e.run("<f9;f1;f2;f9;>=4 frieze(0,3)=1 frieze(0,4)=8 whole(3)=0");
     }
 
@@ -206,6 +211,10 @@ final class FriezeEdges {
         e.promise(22, "The PIECE in which the side from a CORNER to the next one is: its CORNERS (bits).");
         e.run(Edges.plain(4), "piece(0)={0,1,2,3} piece(3)={0,1,2,3}");
         e.run(Edges.plain(4, "d1,3;"), "piece(0)={0,1,3} piece(1)={1,2,3} piece(2)={1,2,3} piece(3)={0,1,3}");
+        // under the nearest of several cuts
+        e.run(Edges.plain(6, "d1,4;d1,5;"), "piece(0)={0,1,5} piece(2)={1,2,3,4} piece(4)={1,4,5} piece(5)={0,1,5}");
+        e.run(Edges.plain(6, "d0,3;d0,4;"), "piece(1)={0,1,2,3} piece(3)={0,3,4} piece(5)={0,4,5}");
+        e.run(Edges.plain(6, "d1,5;d2,5;"), "piece(0)={0,1,5} piece(1)={1,2,5} piece(3)={2,3,4,5}");
         e.run(Edges.plain(9, "d0,2;d2,8;d4,6;"), "piece(0)={0,1,2} piece(1)={0,1,2} piece(2)={2,3,4,6,7,8}",
                 "piece(3)={2,3,4,6,7,8} piece(4)={4,5,6} piece(5)={4,5,6} piece(7)={2,3,4,6,7,8} piece(8)={0,2,8}");
         e.promise(22, "BAD.");
@@ -219,7 +228,8 @@ final class FriezeEdges {
                 + "the three left must have 1 each: the CUTS (bits);");
         e.run(Edges.plain(4), "0:[1,2,1,2] back(0,0)={1} 0:[2,1,2,1] back(0,0)={0}");
         // the first corner goes between the last and the second; the last one between the one ahead and the first
-        e.run(Edges.plain(5), "0:[1,3,1,2,2] back(0,0)={2,3} 0:[1,2,2,1,3] back(0,0)={3,4} 0:[2,2,1,3,1] back(0,0)={1,2}",
+        e.run(Edges.plain(5), "0:[1,3,1,2,2] back(0,0)={2,3} 0:[1,2,2,1,3] back(0,0)={3,4} 0:[2,2,1,3,1]",
+                "back(0,0)={1,2}",
                 "0:[3,1,2,2,1] back(0,0)={0,1} 0:[2,1,3,1,2] back(0,0)={0,4}");
         e.run(Edges.plain(9), "0:[7,1,2,2,2,2,2,2,1] back(0,0)={0,1,2,3,4,5} 0:[1,2,2,2,2,2,2,1,7]",
                 "back(0,0)={11,16,20,23,25,26}");
