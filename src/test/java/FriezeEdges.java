@@ -113,6 +113,9 @@ final class FriezeEdges {
         e.run("<f2;f2;f2;f2;f2;f2;f2;f2;f2;>=9 frieze(8,19)=19 frieze(8,20)=20");
         e.run("<f0;f0;f0;f0;f0;>=5", numbers(4, 0, 1, 0, -1, 0, 1, 0), "frieze(4,19)=-1 frieze(4,20)=0");
         e.run("<m0;m0;m0;m0;>=4", numbers(0, 0, 1, -1, 0, 1, -1, 0), "frieze(0,19)=1 frieze(0,20)=-1");
+        // a product and what comes of it have unlike signs, though nothing is beyond
+        e.run("<f9;f2;f0;m0;>=4", numbers(0, 0, 1, 2, -1, -1), "status()=0");
+        e.run("<f9;m0;f3;m0;f0;>=5", numbers(0, 0, 1, -1, -4, 5, 4), numbers(3, 0, 1, 0, -1, 1), "status()=0");
         e.promise(20, "F(i, k), k 0 to 20.");
         e.run("<f3;f3;f3;f3;>=4", numbers(0, 0, 1, 3, 8, 21, 55, 144, 377, 987), "frieze(3,20)=102334155");
         e.promise(20, "BAD;");
